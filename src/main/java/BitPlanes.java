@@ -339,7 +339,10 @@ public final class BitPlanes {
             return hasStyle(CAUSAL) && y % STRIPE == STRIPE - 1;
         }
 
-        /** Per sample 15 bits and a sign; 2 more where a column of four is told as one; marks. */
+        /**
+         * Per sample 15 bits and a sign; a column of four that is told as one has 2 more, once, for
+         * which one more per sample is plenty; and the marks of each plane.
+         */
         int mostBitsTold() {
             return width * height * (MOST_PLANES + 2) + 4 * MOST_PLANES;
         }

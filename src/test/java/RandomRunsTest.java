@@ -183,7 +183,6 @@ public final class RandomRunsTest {
         int planes = m.told(4);
         for (int p = 0; p < m.passes; p += 1 + chance.nextInt(5)) {
             int passes = p + 1;
-            x.decode(0, 0);
             readFirst(m.length(p), planes, passes);
             readFirst(m.length(p) - 1, planes, passes);
         }

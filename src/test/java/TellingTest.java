@@ -173,7 +173,7 @@ public final class TellingTest {
         }
     }
 
-    /** Neighbours found in the plane above, by chance of eight bits; a one in their middle. */
+    /** All ways in which neighbours are found in the plane above, with a one in their middle. */
     private static void allContextsOfSizes() {
         for (int band = 0; band < 3; band++) {
             for (int which = 1; which < 256; which++) {
