@@ -7,8 +7,14 @@ final class Due {
     private static final int MOST_PRINTED = 50;
 
     private static int wrong = 0;
+    private static String sentence = "";
 
     private Due() {
+    }
+
+    /** The document's words that the answers from here on are due by; a wrong answer names them. */
+    static void by(String words) {
+        sentence = words;
     }
 
     static void answer(String call, long got, long want) {
@@ -60,7 +66,7 @@ final class Due {
     private static void tell(String text) {
         wrong++;
         if (wrong <= MOST_PRINTED) {
-            System.out.println(text);
+            System.out.println(sentence.isEmpty() ? text : text + "  (\"" + sentence + "\")");
         }
     }
 }
