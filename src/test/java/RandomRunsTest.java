@@ -1,8 +1,12 @@
 import java.util.Random;
 
-/** All promises: runs of calls by chance (always the same ones), each compared with the model. */
+/**
+ * All promises: runs of calls by chance (always the same ones), each call compared with the model.
+ * No object has more than the 512 calls that the document promises.
+ */
 public final class RandomRunsTest {
-    private static final int RUNS = 1500;
+    private static final int RUNS = 6000;
+    private static final int MOST_CALLS = 512;
     private static final int[] ODD_NUMBERS = {-1, 0, 1, 2, 3, 15, 16, 17, 43, 12000, 32767, 32768,
         -32767, -32768, Integer.MIN_VALUE, Integer.MAX_VALUE};
 
@@ -10,6 +14,7 @@ public final class RandomRunsTest {
     private final BitPlanes x;
     private final Model m;
     private final String name;
+    private int calls = 0;
 
     private RandomRunsTest(int run) {
         chance = new Random(run);
@@ -24,7 +29,12 @@ public final class RandomRunsTest {
 
     public static void main(String[] args) {
         for (int run = 0; run < RUNS && Due.noneIsWrong(); run++) {
-            new RandomRunsTest(run).go();
+            RandomRunsTest test = new RandomRunsTest(run);
+            switch (run % 3) {
+                case 0: test.callAtRandom(); break;
+                case 1: test.tellOnce(); break;
+                default: test.readOnce(); break;
+            }
         }
         Due.end();
     }
@@ -57,11 +67,14 @@ public final class RandomRunsTest {
     }
 
     private void due(String call, Due.Call got, Due.Call want) {
-        Due.outcome(name + call, Due.outcome(got), Due.outcome(want));
+        if (calls < MOST_CALLS) {
+            calls++;
+            Due.outcome(name + call, Due.outcome(got), Due.outcome(want));
+        }
     }
 
-    private void go() {
-        for (int call = 0; call < 300; call++) {
+    private void callAtRandom() {
+        while (calls < MOST_CALLS) {
             switch (chance.nextInt(12)) {
                 case 0: tellAll(); break;
                 case 1: readSome(); break;
@@ -77,8 +90,49 @@ public final class RandomRunsTest {
             int what = chance.nextInt(9) - 1;
             due("told(" + what + ")", () -> x.told(what), () -> m.told(what));
         }
-        askAllBits();
-        readAllPasses();
+    }
+
+    /** Many bits of one telling. */
+    private void tellOnce() {
+        putMany();
+        tellAll();
+        for (int p = 0; p < m.passes; p++) {
+            askPass(p);
+        }
+        while (calls < MOST_CALLS) {
+            int i = chance.nextInt(Math.max(1, m.bits()));
+            for (int what = 0; what < 3; what++) {
+                askBit(i, what);
+            }
+        }
+    }
+
+    /** Many samples of one reading: up to a pass, or with a bit less than that pass needs. */
+    private void readOnce() {
+        putMany();
+        tellAll();
+        int p = chance.nextInt(Math.max(1, m.passes));
+        int n = m.passes == 0 ? 0 : Math.max(0, m.length(p) - chance.nextInt(2));
+        due("pass(" + n + ")", () -> x.pass(n), () -> m.pass(n));
+        if (chance.nextInt(4) == 0) {
+            turn();
+        }
+        int planes = m.told(4);
+        due("decode(" + planes + ", " + (p + 1) + ")",
+            () -> x.decode(planes, p + 1), () -> m.decode(planes, p + 1));
+        while (calls < MOST_CALLS) {
+            askRead();
+        }
+    }
+
+    private void putMany() {
+        if (chance.nextBoolean()) {
+            paint();
+        }
+        int some = chance.nextInt(60);
+        for (int i = 0; i < some; i++) {
+            put();
+        }
     }
 
     private void put() {
@@ -103,13 +157,18 @@ public final class RandomRunsTest {
     }
 
     private void askBits() {
-        int i = about(m.bits());
-        int what = chance.nextInt(5) - 1;
+        askBit(about(m.bits()), chance.nextInt(5) - 1);
+    }
+
+    private void askBit(int i, int what) {
         due("bit(" + i + ", " + what + ")", () -> x.bit(i, what), () -> m.bit(i, what));
     }
 
     private void askPasses() {
-        int p = about(m.passes);
+        askPass(about(m.passes));
+    }
+
+    private void askPass(int p) {
         due("length(" + p + ")", () -> x.length(p), () -> m.length(p));
         due("distortion(" + p + ")", () -> x.distortion(p), () -> m.distortion(p));
         due("kind(" + p + ")", () -> x.kind(p), () -> m.kind(p));
@@ -136,7 +195,9 @@ public final class RandomRunsTest {
         int passes = chance.nextInt(2) == 0 ? about(44) : m.passes;
         due("decode(" + planes + ", " + passes + ")",
             () -> x.decode(planes, passes), () -> m.decode(planes, passes));
-        askWholeBlock();
+        for (int i = 0; i < 8; i++) {
+            askRead();
+        }
     }
 
     private void askRead() {
@@ -149,58 +210,17 @@ public final class RandomRunsTest {
 
     private void clearAtTimes() {
         if (chance.nextInt(6) == 0) {
-            x.clear();
-            m.clear();
+            due("clear()", () -> cleared(x), () -> cleared(m));
         }
     }
 
-    private void askWholeBlock() {
-        for (int line = 0; line < m.height; line++) {
-            for (int column = 0; column < m.width; column++) {
-                Due.answer(name + "at", x.at(column, line), m.at(column, line));
-                Due.answer(name + "known", x.known(column, line), m.known(column, line));
-            }
-        }
+    private static long cleared(BitPlanes one) {
+        one.clear();
+        return 0;
     }
 
-    private void askAllBits() {
-        tellAll();
-        for (int i = 0; i < m.bits(); i++) {
-            for (int what = 0; what < 3; what++) {
-                Due.answer(name + "bit " + i + " " + what, x.bit(i, what), m.bit(i, what));
-            }
-        }
-        for (int p = 0; p < m.passes; p++) {
-            Due.answer(name + "length " + p, x.length(p), m.length(p));
-            Due.answer(name + "distortion " + p, x.distortion(p), m.distortion(p));
-            Due.answer(name + "kind " + p, x.kind(p), m.kind(p));
-            Due.answer(name + "terminated " + p, x.terminated(p), m.terminated(p));
-        }
-    }
-
-    /** Each pass by itself, then with a bit less than it needs. */
-    private void readAllPasses() {
-        int planes = m.told(4);
-        for (int p = 0; p < m.passes; p += 1 + chance.nextInt(5)) {
-            int passes = p + 1;
-            readFirst(m.length(p), planes, passes);
-            readFirst(m.length(p) - 1, planes, passes);
-        }
-    }
-
-    private void readFirst(int bits, int planes, int passes) {
-        BitPlanes other = new BitPlanes(m.width, m.height, m.style, m.band);
-        m.toRead.clear();
-        for (int i = 0; i < bits; i++) {
-            other.feed(x.bit(i, 0));
-            m.toRead.add(m.bit(i, 0));
-        }
-        Due.answer(name + "decode", other.decode(planes, passes), m.decode(planes, passes));
-        for (int line = 0; line < m.height; line++) {
-            for (int column = 0; column < m.width; column++) {
-                Due.answer(name + "at", other.at(column, line), m.at(column, line));
-                Due.answer(name + "known", other.known(column, line), m.known(column, line));
-            }
-        }
+    private static long cleared(Model one) {
+        one.clear();
+        return 0;
     }
 }

@@ -25,14 +25,6 @@ public final class ReadingTest {
         Due.end();
     }
 
-    private static BitPlanes fed(int width, int height, int style, String bits) {
-        BitPlanes x = new BitPlanes(width, height, style, 0);
-        for (int i = 0; i < bits.length(); i++) {
-            x.feed(bits.charAt(i) - '0');
-        }
-        return x;
-    }
-
     private static void sample(BitPlanes x, int column, int row, int value, int plane) {
         Due.answer("at(" + column + ", " + row + ")", x.at(column, row), value);
         Due.answer("known(" + column + ", " + row + ")", x.known(column, row), plane);
@@ -97,7 +89,7 @@ public final class ReadingTest {
     }
 
     private static void turns() {
-        BitPlanes x = fed(1, 1, 0, "110");
+        BitPlanes x = Blocks.fed(1, 1, 0, "110");
         Due.answer("turn(2)", x.turn(2), 1);
         Due.answer("turn(2)", x.turn(2), 0);
         Due.answer("turn(1)", x.turn(1), 0);
@@ -127,11 +119,11 @@ public final class ReadingTest {
     }
 
     private static void readByHand() {
-        BitPlanes x = fed(1, 1, 0, "1101");
+        BitPlanes x = Blocks.fed(1, 1, 0, "1101");
         Due.answer("decode(3, 7)", x.decode(3, 7), 7);
         sample(x, 0, 0, -5, 0);
         // Of a column of four: none in plane 1; then the third one, -1.
-        BitPlanes column = fed(1, 4, 0, "0" + "11010");
+        BitPlanes column = Blocks.fed(1, 4, 0, "0" + "11010");
         Due.answer("decode(2, 4)", column.decode(2, 4), 4);
         sample(column, 0, 0, 0, 0);
         sample(column, 0, 1, 0, 0);
@@ -141,7 +133,7 @@ public final class ReadingTest {
 
     private static void readInPart() {
         // -4 in pass 0; at its right 1, found in pass 4, its sign turned as -4 is beside it.
-        BitPlanes x = fed(2, 1, 0, "110" + "0" + "0" + "11" + "0");
+        BitPlanes x = Blocks.fed(2, 1, 0, "110" + "0" + "0" + "11" + "0");
         Due.answer("decode(3, 0)", x.decode(3, 0), 0);
         sample(x, 0, 0, 0, 3);
         sample(x, 1, 0, 0, 3);
@@ -164,7 +156,7 @@ public final class ReadingTest {
     }
 
     private static void bitsThatLack() {
-        BitPlanes x = fed(1, 1, 0, "");
+        BitPlanes x = Blocks.fed(1, 1, 0, "");
         Due.answer("decode(15, 43) of none", x.decode(15, 43), 0);
         sample(x, 0, 0, 0, 15);
         x.feed(1);
@@ -174,7 +166,7 @@ public final class ReadingTest {
         Due.answer("decode(15, 43) of the first pass", x.decode(15, 43), 2);
         sample(x, 0, 0, -16384, 14);
         // The first sample of a pass is read, but not the second one: nothing of that pass stays.
-        BitPlanes two = fed(2, 1, 0, "1010" + "1");
+        BitPlanes two = Blocks.fed(2, 1, 0, "1010" + "1");
         Due.answer("decode(2, 4)", two.decode(2, 4), 2);
         sample(two, 0, 0, 2, 1);
         sample(two, 1, 0, 2, 1);
@@ -185,7 +177,7 @@ public final class ReadingTest {
     }
 
     private static void passesThatNeedNoBits() {
-        BitPlanes x = fed(1, 1, 0, "100");
+        BitPlanes x = Blocks.fed(1, 1, 0, "100");
         Due.answer("decode(2, 4)", x.decode(2, 4), 4);
         Due.answer("decode(3, 7)", x.decode(3, 7), 5);
         sample(x, 0, 0, 4, 1);
@@ -194,21 +186,21 @@ public final class ReadingTest {
     private static void marksThatAreOther() {
         String[] others = {"0010", "1110", "1000", "1011", "0000", "1111", "0101"};
         for (String marks : others) {
-            BitPlanes x = fed(1, 1, MARKS, "10" + marks + "1" + "1010");
+            BitPlanes x = Blocks.fed(1, 1, MARKS, "10" + marks + "1" + "1010");
             Due.answer("decode(2, 4) with " + marks, x.decode(2, 4), -1);
             sample(x, 0, 0, 2, 1);
-            BitPlanes later = fed(1, 1, MARKS, "10" + "1010" + "1" + marks + "11111");
+            BitPlanes later = Blocks.fed(1, 1, MARKS, "10" + "1010" + "1" + marks + "11111");
             Due.answer("decode(3, 9) with " + marks + " later", later.decode(3, 9), -4);
             sample(later, 0, 0, 6, 1);
             Due.answer("decode(3, 3) with " + marks + " later", later.decode(3, 3), 3);
             Due.answer("decode(2, 4) with " + marks + " at last", later.decode(2, 4), -4);
         }
-        BitPlanes right = fed(1, 1, MARKS, "10" + "1010" + "1" + "1010");
+        BitPlanes right = Blocks.fed(1, 1, MARKS, "10" + "1010" + "1" + "1010");
         Due.answer("decode(2, 4) with right marks", right.decode(2, 4), 4);
-        BitPlanes lacking = fed(1, 1, MARKS, "10" + "1010" + "1" + "101");
+        BitPlanes lacking = Blocks.fed(1, 1, MARKS, "10" + "1010" + "1" + "101");
         Due.answer("decode(2, 4) with marks that lack", lacking.decode(2, 4), 3);
         sample(lacking, 0, 0, 3, 0);
-        BitPlanes wrongAndLacking = fed(1, 1, MARKS, "10" + "01");
+        BitPlanes wrongAndLacking = Blocks.fed(1, 1, MARKS, "10" + "01");
         Due.answer("decode(2, 4) with wrong marks that lack", wrongAndLacking.decode(2, 4), 0);
         sample(wrongAndLacking, 0, 0, 0, 2);
     }
@@ -216,18 +208,18 @@ public final class ReadingTest {
     private static void signsTurnedAndRaw() {
         // -16, and at its right a one in the last plane: raw its sign is as it is.
         String before = "110" + "00" + "00" + "00";
-        BitPlanes turned = fed(2, 1, 0, before + "11" + "0");
+        BitPlanes turned = Blocks.fed(2, 1, 0, before + "11" + "0");
         Due.answer("decode(5, 13)", turned.decode(5, 13), 13);
         sample(turned, 0, 0, -16, 0);
         sample(turned, 1, 0, 1, 0);
-        BitPlanes raw = fed(2, 1, BYPASS, before + "11" + "0");
+        BitPlanes raw = Blocks.fed(2, 1, BYPASS, before + "11" + "0");
         Due.answer("decode(5, 13) raw", raw.decode(5, 13), 13);
         sample(raw, 0, 0, -16, 0);
         sample(raw, 1, 0, -1, 0);
     }
 
     private static void columnsToldAsOne() {
-        BitPlanes x = fed(1, 5, CAUSAL, "0" + "11" + "0" + "1" + "0" + "0");
+        BitPlanes x = Blocks.fed(1, 5, CAUSAL, "0" + "11" + "0" + "1" + "0" + "0");
         Due.answer("decode(2, 1)", x.decode(2, 1), 1);
         for (int y = 0; y < 4; y++) {
             sample(x, 0, y, 0, 1);
@@ -249,7 +241,7 @@ public final class ReadingTest {
     }
 
     private static void whatIsReadStays() {
-        BitPlanes x = fed(1, 1, 0, "1101");
+        BitPlanes x = Blocks.fed(1, 1, 0, "1101");
         x.decode(3, 7);
         Due.answer("told(6) behind decode", x.told(6), 4);
         Due.answer("decode again", x.decode(3, 7), 7);
@@ -264,7 +256,7 @@ public final class ReadingTest {
     }
 
     private static void beginsAnew() {
-        BitPlanes x = fed(1, 1, 0, "1111");
+        BitPlanes x = Blocks.fed(1, 1, 0, "1111");
         Due.answer("decode(3, 7)", x.decode(3, 7), 7);
         sample(x, 0, 0, -7, 0);
         Due.answer("decode(4, 1)", x.decode(4, 1), 1);
@@ -275,7 +267,7 @@ public final class ReadingTest {
     }
 
     private static void refusedReading() {
-        BitPlanes x = fed(1, 1, 0, "1101");
+        BitPlanes x = Blocks.fed(1, 1, 0, "1101");
         x.decode(3, 7);
         int[][] others = {{-1, 0}, {16, 0}, {0, -1}, {3, -1}, {15, Integer.MIN_VALUE},
             {Integer.MAX_VALUE, 1}, {Integer.MIN_VALUE, 1}};
@@ -287,7 +279,7 @@ public final class ReadingTest {
     }
 
     private static void samplesThatAreNotThere() {
-        BitPlanes x = fed(3, 5, 0, "1101");
+        BitPlanes x = Blocks.fed(3, 5, 0, "1101");
         int[][] others = {{-1, 0}, {3, 0}, {0, -1}, {0, 5}, {4, 3}, {Integer.MAX_VALUE, 0},
             {0, Integer.MAX_VALUE}, {Integer.MIN_VALUE, 0}, {0, Integer.MIN_VALUE}};
         for (int[] o : others) {

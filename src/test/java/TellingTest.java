@@ -47,27 +47,19 @@ public final class TellingTest {
         }
     }
 
-    private static BitPlanes block(int width, int style, int band, int... values) {
-        BitPlanes x = new BitPlanes(width, values.length / width, style, band);
-        for (int i = 0; i < values.length; i++) {
-            x.put(i % width, i / width, values[i]);
-        }
-        return x;
-    }
-
     private static void nothingToTell() {
         due("zeros", new BitPlanes(5, 5, 31, 2), 0, new int[][] {});
-        Due.answer("bits() before encode()", block(1, 0, 0, 4).bits(), 0);
+        Due.answer("bits() before encode()", Blocks.of(1, 0, 0, 4).bits(), 0);
     }
 
     private static void oneSample() {
-        due("one sample", block(1, 0, 0, -5), 7,
+        due("one sample", Blocks.of(1, 0, 0, -5), 7,
             new int[][] {{1, 0, 0}, {1, 9, 0}, {0, 14, 2}, {1, 16, 5}});
-        due("a one", block(1, 0, 2, 1), 1, new int[][] {{1, 0, 0}, {0, 9, 0}});
+        due("a one", Blocks.of(1, 0, 2, 1), 1, new int[][] {{1, 0, 0}, {0, 9, 0}});
     }
 
     private static void columnToldAsOne() {
-        due("a column", block(1, 0, 0, 0, 0, 3, 0), 4, new int[][] {
+        due("a column", Blocks.of(1, 0, 0, 0, 0, 3, 0), 4, new int[][] {
             {1, 17, 0}, {1, 18, 0}, {0, 18, 0}, {0, 9, 0}, {0, 3, 0},
             {0, 3, 1}, {0, 3, 1},
             {1, 14, 2},
@@ -75,9 +67,9 @@ public final class TellingTest {
     }
 
     private static void columnsOfFewerRows() {
-        due("three rows", block(1, 0, 0, 0, 0, 1), 1,
+        due("three rows", Blocks.of(1, 0, 0, 0, 0, 1), 1,
             new int[][] {{0, 0, 0}, {0, 0, 0}, {1, 0, 0}, {0, 9, 0}});
-        due("five rows", block(1, 0, 0, 0, 0, 0, 0, -1), 1,
+        due("five rows", Blocks.of(1, 0, 0, 0, 0, 0, 0, -1), 1,
             new int[][] {{0, 17, 0}, {1, 0, 0}, {1, 9, 0}});
     }
 
@@ -94,31 +86,31 @@ public final class TellingTest {
 
     private static void stripesColumnsRows() {
         // The one above right comes behind the whole column at its left, but before the stripe below.
-        due("two columns", block(2, 0, 0, 0, 0, 0, 0, 0, 0, -1, 0, 0, 1), 1, new int[][] {
+        due("two columns", Blocks.of(2, 0, 0, 0, 0, 0, 0, 0, 0, -1, 0, 0, 1), 1, new int[][] {
             {1, 17, 0}, {1, 18, 0}, {1, 18, 0}, {1, 9, 0},
             {0, 0, 0}, {0, 0, 0}, {0, 1, 0}, {0, 5, 0},
             {0, 3, 0}, {1, 1, 0}, {0, 9, 0}});
     }
 
     private static void marks() {
-        due("marks", block(1, MARKS, 0, 2), 4, new int[][] {
+        due("marks", Blocks.of(1, MARKS, 0, 2), 4, new int[][] {
             {1, 0, 0}, {0, 9, 0}, {1, 18, 0}, {0, 18, 0}, {1, 18, 0}, {0, 18, 0},
             {0, 14, 2},
             {1, 18, 3}, {0, 18, 3}, {1, 18, 3}, {0, 18, 3}});
     }
 
     private static void causal() {
-        due("not causal", block(1, 0, 0, 0, 0, 0, 1, -2), 4, new int[][] {
+        due("not causal", Blocks.of(1, 0, 0, 0, 0, 0, 1, -2), 4, new int[][] {
             {0, 17, 0}, {1, 0, 0}, {1, 9, 0},
             {1, 3, 1}, {1, 10, 1},
             {0, 15, 2},
             {0, 0, 3}, {0, 0, 3}, {0, 3, 3}});
-        due("causal", block(1, CAUSAL, 0, 0, 0, 0, 1, -2), 4, new int[][] {
+        due("causal", Blocks.of(1, CAUSAL, 0, 0, 0, 0, 1, -2), 4, new int[][] {
             {0, 17, 0}, {1, 0, 0}, {1, 9, 0},
             {0, 14, 2},
             {1, 17, 3}, {1, 18, 3}, {1, 18, 3}, {0, 9, 3}});
         // A stripe sees the one above it, and one sees the row below it in its own stripe.
-        due("causal, looking up", block(1, CAUSAL, 0, 0, 0, 1, 2, 1), 4, new int[][] {
+        due("causal, looking up", Blocks.of(1, CAUSAL, 0, 0, 0, 1, 2, 1), 4, new int[][] {
             {1, 17, 0}, {1, 18, 0}, {1, 18, 0}, {0, 9, 0}, {0, 3, 0},
             {1, 3, 1}, {0, 10, 1}, {1, 3, 1}, {0, 10, 1},
             {0, 15, 2},
@@ -126,12 +118,12 @@ public final class TellingTest {
     }
 
     private static void refining() {
-        due("refined with a neighbour", block(2, 0, 0, 7, 4), 7, new int[][] {
+        due("refined with a neighbour", Blocks.of(2, 0, 0, 7, 4), 7, new int[][] {
             {1, 0, 0}, {0, 9, 0}, {1, 5, 0}, {0, 12, 0},
             {1, 15, 2}, {0, 15, 2},
             {1, 16, 5}, {0, 16, 5}});
         // A neighbour at a corner counts as well, and so does one found in this very plane.
-        due("refined with a corner", block(2, 0, 0, 2, 0, 0, 1), 4, new int[][] {
+        due("refined with a corner", Blocks.of(2, 0, 0, 2, 0, 0, 1), 4, new int[][] {
             {1, 0, 0}, {0, 9, 0}, {0, 3, 0}, {0, 5, 0}, {0, 1, 0},
             {0, 3, 1}, {0, 5, 1}, {1, 1, 1}, {0, 9, 1},
             {0, 15, 2}});
@@ -143,11 +135,11 @@ public final class TellingTest {
             {0, 5, 1}, {0, 14, 2}, {0, 0, 3}, {0, 0, 3},
             {0, 5, 4}, {0, 16, 5}, {0, 0, 6}, {0, 0, 6},
             {0, 5, 7}, {0, 16, 8}, {0, 0, 9}, {0, 0, 9}};
-        due("bypass", block(4, BYPASS, 0, -17, 1, 0, 1), 13, with(before, new int[][] {
+        due("bypass", Blocks.of(4, BYPASS, 0, -17, 1, 0, 1), 13, with(before, new int[][] {
             {1, 19, 10}, {0, 19, 10}, {0, 19, 10}, {1, 19, 11}, {1, 0, 12}, {0, 9, 12}}));
-        due("bypass, below 0", block(4, BYPASS, 0, -17, -1, 0, -1), 13, with(before, new int[][] {
+        due("bypass, below 0", Blocks.of(4, BYPASS, 0, -17, -1, 0, -1), 13, with(before, new int[][] {
             {1, 19, 10}, {1, 19, 10}, {0, 19, 10}, {1, 19, 11}, {1, 0, 12}, {1, 9, 12}}));
-        due("no bypass", block(4, 0, 0, -17, 1, 0, 1), 13, with(before, new int[][] {
+        due("no bypass", Blocks.of(4, 0, 0, -17, 1, 0, 1), 13, with(before, new int[][] {
             {1, 5, 10}, {1, 12, 10}, {0, 5, 10}, {1, 16, 11}, {1, 0, 12}, {0, 9, 12}}));
     }
 
@@ -160,10 +152,10 @@ public final class TellingTest {
 
     private static void styleThatChangesNothing() {
         for (int style = 0; style < 32; style++) {
-            BitPlanes one = new BitPlanes(7, 9, style & ~6, 1);
-            BitPlanes two = new BitPlanes(7, 9, style, 1);
-            one.paint(-1000, 37);
-            two.paint(-1000, 37);
+            BitPlanes one = new BitPlanes(3, 5, style & ~6, 1);
+            BitPlanes two = new BitPlanes(3, 5, style, 1);
+            one.paint(-100, 13);
+            two.paint(-100, 13);
             Due.answer("encode() of style " + style, two.encode(), one.encode());
             Due.answer("bits() of style " + style, two.bits(), one.bits());
             for (int i = 0; i < one.bits(); i++) {
@@ -181,7 +173,7 @@ public final class TellingTest {
                 for (int i = 0; i < 8; i++) {
                     n[i] = which >> i & 1;
                 }
-                BitPlanes x = block(3, 0, band, 2 * n[0], 2 * n[1], 2 * n[2],
+                BitPlanes x = Blocks.of(3, 0, band, 2 * n[0], 2 * n[1], 2 * n[2],
                     2 * n[3], 1, 2 * n[4], 2 * n[5], 2 * n[6], 2 * n[7]);
                 x.encode();
                 Due.answer("context in band " + band + " of neighbours " + which,
@@ -217,7 +209,7 @@ public final class TellingTest {
             int b = Integer.signum(above + below);
             int due = SIGNS[a + 1][b + 1];
             for (int middle = -1; middle <= 1; middle += 2) {
-                BitPlanes x = block(3, 0, 0, 0, 2 * above, 0, 2 * left, middle, 2 * right,
+                BitPlanes x = Blocks.of(3, 0, 0, 0, 2 * above, 0, 2 * left, middle, 2 * right,
                     0, 2 * below, 0);
                 x.encode();
                 int i = firstOneOfPass1(x) + 1;
@@ -229,7 +221,7 @@ public final class TellingTest {
     }
 
     private static void toldAnew() {
-        BitPlanes x = block(1, 0, 0, -5);
+        BitPlanes x = Blocks.of(1, 0, 0, -5);
         x.encode();
         x.put(0, 0, 1);
         Due.answer("bits() behind a put", x.bits(), 4);
@@ -240,7 +232,7 @@ public final class TellingTest {
     }
 
     private static void bitsThatAreNotThere() {
-        BitPlanes x = block(1, 0, 0, -5);
+        BitPlanes x = Blocks.of(1, 0, 0, -5);
         Due.exception("bit(0, 0) before encode()", IndexOutOfBoundsException.class, () -> x.bit(0, 0));
         x.encode();
         int[] others = {-1, 4, 5, Integer.MIN_VALUE, Integer.MAX_VALUE};
